@@ -544,14 +544,10 @@ public final class KnifeDesk {
         int agent;
         final Span points = new Span();
 
-        void put(int what, int who, Point one, Point other) {
-            kind = what;
-            agent = who;
-            points.put(one, other);
-        }
-
         void copy(Event other) {
-            put(other.kind, other.agent, other.points.left, other.points.right);
+            kind = other.kind;
+            agent = other.agent;
+            points.copy(other.points);
         }
 
         long part(int what) {
@@ -796,7 +792,10 @@ public final class KnifeDesk {
 
         void note(int kind, int agent, Point one, Point other) {
             if (events < log.length) {
-                log[events].put(kind, agent, one, other);
+                Event event = log[events];
+                event.kind = kind;
+                event.agent = agent;
+                event.points.put(one, other);
                 events++;
             }
         }
@@ -998,50 +997,44 @@ public final class KnifeDesk {
             return 0;
         }
 
-        private long has(int agent, Point left, Point right) {
-            return cake.between(cake.told[agent], left, right, out.unit);
-        }
-
         private long has(int agent, Span span) {
             return cake.between(cake.told[agent], span.left, span.right, out.unit);
         }
 
         /** An agent marks over by under of what a span has for it, from a point on. */
-        private boolean place(Point to, int agent, Point start, Span of, int over, int under) {
+        private boolean putMark(Point to, int agent, Point start, Span of, int over, int under) {
             int[] row = cake.told[agent];
             long need = cake.between(row, of.left, of.right, out.unit) * over;
             return cake.reach(to, row, start.parts(out.unit), out.unit, need, under) && out.takesIn(to);
         }
 
-        private void noteMark(int agent, Point mark) {
-            out.note(MARKS, agent, mark, whole.left);
-        }
-
-        private void take(int agent, Point left, Point right) {
-            out.note(TAKES, agent, left, right);
-            out.give(agent, left, right);
-        }
-
         private void takeRestTo(int place, Point right) {
-            take(agentAt(place), rest.left, right);
+            int agent = agentAt(place);
+            out.note(TAKES, agent, rest.left, right);
+            out.give(agent, rest.left, right);
             rest.left.copy(right);
+        }
+
+        private void takePiece(int place, int piece) {
+            int agent = agentAt(place);
+            Span span = pieces[piece];
+            out.note(TAKES, agent, span.left, span.right);
+            out.give(agent, span.left, span.right);
         }
 
         private boolean cutAndChoose() {
             int cutter = agentAt(0);
             int chooser = agentAt(1);
             Point cut = marks[0];
-            if (!place(cut, cutter, whole.left, whole, 1, 2)) {
+            if (!putMark(cut, cutter, whole.left, whole, 1, 2)) {
                 return false;
             }
-            noteMark(cutter, cut);
-            if (has(chooser, whole.left, cut) >= has(chooser, cut, whole.right)) {
-                take(chooser, whole.left, cut);
-                take(cutter, cut, whole.right);
-            } else {
-                take(chooser, cut, whole.right);
-                take(cutter, whole.left, cut);
-            }
+            out.note(MARKS, cutter, cut, whole.left);
+            pieces[0].put(whole.left, cut);
+            pieces[1].put(cut, whole.right);
+            int chosen = has(chooser, pieces[0]) >= has(chooser, pieces[1]) ? 0 : 1;
+            takePiece(1, chosen);
+            takePiece(0, 1 - chosen);
             return true;
         }
 
@@ -1064,10 +1057,10 @@ public final class KnifeDesk {
             for (int place = 0; place < cake.agents; place++) {
                 if (isIn(group, place)) {
                     int agent = agentAt(place);
-                    if (!place(marks[place], agent, rest.left, of, over, under)) {
+                    if (!putMark(marks[place], agent, rest.left, of, over, under)) {
                         return false;
                     }
-                    noteMark(agent, marks[place]);
+                    out.note(MARKS, agent, marks[place], whole.left);
                 }
             }
             return true;
@@ -1087,10 +1080,10 @@ public final class KnifeDesk {
             int left = everyone();
             for (int k = cake.agents; k > 1; k--) {
                 int last = firstOf(left);
-                if (!place(marks[last], agentAt(last), rest.left, rest, 1, k)) {
+                if (!putMark(marks[last], agentAt(last), rest.left, rest, 1, k)) {
                     return false;
                 }
-                noteMark(agentAt(last), marks[last]);
+                out.note(MARKS, agentAt(last), marks[last], whole.left);
                 for (int place = last + 1; place < cake.agents; place++) {
                     if (isIn(left, place)) {
                         int kept = trimOrPass(place, last, k);
@@ -1110,11 +1103,12 @@ public final class KnifeDesk {
         /** Whose the piece is behind this one's turn; -1: its mark makes the unit too large. */
         private int trimOrPass(int place, int last, int k) {
             int agent = agentAt(place);
-            if (has(agent, rest.left, marks[last]) * k <= has(agent, rest)) {
+            long piece = cake.between(cake.told[agent], rest.left, marks[last], out.unit);
+            if (piece * k <= has(agent, rest)) {
                 out.note(PASSES, agent, marks[last], whole.left);
                 return last;
             }
-            if (!place(marks[place], agent, rest.left, rest, 1, k)) {
+            if (!putMark(marks[place], agent, rest.left, rest, 1, k)) {
                 return -1;
             }
             out.note(TRIMS, agent, marks[place], marks[last]);
@@ -1159,11 +1153,11 @@ public final class KnifeDesk {
 
         /** An agent marks a third and two thirds of a span: the pieces are its three parts then. */
         private boolean cutInThree(int agent, Span span) {
-            if (!place(marks[0], agent, span.left, span, 1, 3) || !place(marks[1], agent, span.left, span, 2, 3)) {
+            if (!putMark(marks[0], agent, span.left, span, 1, 3) || !putMark(marks[1], agent, span.left, span, 2, 3)) {
                 return false;
             }
-            noteMark(agent, marks[0]);
-            noteMark(agent, marks[1]);
+            out.note(MARKS, agent, marks[0], whole.left);
+            out.note(MARKS, agent, marks[1], whole.left);
             pieces[0].put(span.left, marks[0]);
             pieces[1].put(marks[0], marks[1]);
             pieces[2].put(marks[1], span.right);
@@ -1194,17 +1188,13 @@ public final class KnifeDesk {
                 out.note(PASSES, trimmer, piece.right, whole.left);
                 return true;
             }
-            if (!place(marks[2], trimmer, piece.left, second, 1, 1)) {
+            if (!putMark(marks[2], trimmer, piece.left, second, 1, 1)) {
                 return false;
             }
             crumbs.put(marks[2], piece.right);
             piece.right.copy(marks[2]);
             out.note(TRIMS, trimmer, crumbs.left, crumbs.right);
             return true;
-        }
-
-        private void takePiece(int place, int piece) {
-            take(agentAt(place), pieces[piece].left, pieces[piece].right);
         }
 
         private boolean takePieces() {
