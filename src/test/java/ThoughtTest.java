@@ -86,6 +86,11 @@ public final class ThoughtTest {
         x.worth(0, 0, 1);
         x.tells(0, 0, 0);
         lieIs(x, 0, 0, 0, 103, 13, 4);
+        // 1 less of strip 0 would bring more, but the others are told as 9 already
+        x = Due.desk(3, 2, "w0:1,9,9;w1:0,0,9");
+        lieIs(x, 0, 0, 0, NO, NO, NO);
+        Due.worths(x, "w0:2,8,9");
+        lieIs(x, 0, 0, 0, 1, 86, 9);
         x = Due.desk(4, 3, "");
         due.is("two choose, of three", x.lie(0, 0, 0, 0), NO);
     }
