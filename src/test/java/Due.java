@@ -5,16 +5,24 @@ final class Due {
     private int asked = 0;
     private int wrong = 0;
     private int promise = 0;
+    private String sentence = "";
 
     void promise(int number) {
         promise = number;
+        sentence = "";
+    }
+
+    /** The words of the document that what is asked next would break. */
+    void sentence(int number, String words) {
+        promise = number;
+        sentence = " (" + words + ")";
     }
 
     void is(String what, long got, long due) {
         asked++;
         if (got != due) {
             wrong++;
-            System.out.println("promise " + promise + ": " + what + " answered " + got + ", due is " + due);
+            System.out.println("promise " + promise + sentence + ": " + what + " answered " + got + ", due is " + due);
         }
     }
 
@@ -22,7 +30,7 @@ final class Due {
         asked++;
         if (!got.equals(due)) {
             wrong++;
-            System.out.println("promise " + promise + ": " + what + " answered " + got + ", due is " + due);
+            System.out.println("promise " + promise + sentence + ": " + what + " answered " + got + ", due is " + due);
         }
     }
 
@@ -73,7 +81,8 @@ final class Due {
     /** What an agent tells, figure by figure. */
     static String row(KnifeDesk desk, int agent, int how) {
         StringBuilder text = new StringBuilder();
-        for (int s = 0; s < desk.count(1); s++) {
+        int strips = desk.count(1);
+        for (int s = 0; s < strips; s++) {
             text.append(desk.strip(agent, s, how));
         }
         return text.toString();
@@ -86,8 +95,10 @@ final class Due {
     /** The shares, as a division is told; an agent without spans is left out. */
     static String shares(KnifeDesk desk) {
         StringBuilder text = new StringBuilder();
-        for (int i = 0; i < desk.count(0); i++) {
-            for (int k = 0; k < desk.share(i, -1, 0); k++) {
+        int agents = desk.count(0);
+        for (int i = 0; i < agents; i++) {
+            long spans = desk.share(i, -1, 0);
+            for (int k = 0; k < spans; k++) {
                 text.append(k > 0 ? "," : (text.length() > 0 ? ";" : "") + i + "=");
                 text.append(point(desk.share(i, k, 0), desk.share(i, k, 1))).append('-');
                 text.append(point(desk.share(i, k, 2), desk.share(i, k, 3)));

@@ -143,7 +143,7 @@ public final class RowsTest {
         x.shares(4, 0);
         String before = log(x);
         due.is("image()", x.image(), 3);
-        due.isText("the division stays", log(x), before);
+        due.is("the division stays", x.event(-1, 0), 11);
         x.list(0, 2);
         x.feed('w');
         x.begin(16, 5);
@@ -166,6 +166,9 @@ public final class RowsTest {
         due.isText("again", log(x), before);
         due.isText("worth again", Due.row(x, 1, 0), "620");
         due.promise(32);
+        x = new KnifeDesk();
+        x.shares(4, 0);
+        x.image();
         x.begin(2, 2);
         due.is("a newer image", x.image(), 2);
         x.begin(4, 4);
