@@ -46,6 +46,59 @@ public final class CakeEdgesTest {
         due.is("another one is new", y.strip(0, 0, 0), 1);
         due.is("without a division", y.count(2), 0);
         due.is("without an image", y.back(), STATE);
+        memory();
+        calls();
+    }
+
+    private void memory() {
+        due.sentence(1, "All memory is the class's own");
+        KnifeDesk x = Due.desk(4, 2, "w0:1,2,3,4");
+        KnifeDesk y = Due.desk(2, 5, "w0:9,8;t0:7,6");
+        Due.feed(x, "w1:5");
+        Due.feed(y, "t4:3,2");
+        x.shares(0, 0);
+        y.shares(1, 4);
+        x.prints();
+        x.list(2, 3);
+        x.set(2, 1, 77);
+        y.list(2, 2);
+        x.image();
+        due.is("the other's agents", y.count(0), 5);
+        due.isText("the other's worths", Due.row(y, 0, 0) + Due.row(y, 0, 1), "9876");
+        due.is("the other's tape", y.count(4), 6);
+        due.is("the other's paper", y.count(5), 0);
+        due.is("the other's list", y.get(2, 1), 0);
+        due.is("the other's image", y.back(), STATE);
+        due.is("the other's log", y.count(6), 19);
+        due.is("the other's tape is read", y.worths(), 1);
+        y.begin(3, 3);
+        y.would(4, 0, 0, 0);
+        y.exact(0, 1, 0);
+        due.isText("its own worths", Due.row(x, 0, 1) + Due.row(x, 1, 1), "12341111");
+        due.isText("its own shares", Due.shares(x), "0=8/3-4;1=0-8/3");
+        due.is("its own tape", x.count(4), 4);
+        due.is("its own list", x.get(2, 1), 77);
+        due.is("its own tape is read", x.worths(), 1);
+        due.is("its own image", x.back(), 2);
+        due.is("back to it", x.strip(1, 0, 0), 1);
+    }
+
+    private void calls() {
+        due.sentence(1, "An object is used for at most 512 calls");
+        KnifeDesk x = new KnifeDesk();
+        for (int k = 1; k < 512; k++) {
+            due.is("call " + k, k % 2 == 1 ? x.worth(2, 7, 3) : x.worth(2, 7, 1), k % 2 == 1 ? 1 : 3);
+        }
+        due.is("call 512", x.strip(2, 7, 0), 3);
+        String worths = "w0:9,8,7,6,5,4,3,2,1,2,3,4,5,6,7,8;w1:1,2,3,4,5,6,7,8,9;w2:5,1,5,1,5,1,5,1,5,1,5,1,5,1,5,1";
+        x = Due.desk(16, 3, worths);
+        // begin, each byte, worths, the first lie
+        int made = 1 + worths.length() + 1 + 1;
+        long lie = x.lie(4, 1, 2, 0);
+        for (int k = made + 1; k < 512; k++) {
+            due.is("lie, call " + k, x.lie(4, 1, 2, 0), lie);
+        }
+        due.is("shares, call 512", x.shares(3, 0), 8);
     }
 
     private void begin() {

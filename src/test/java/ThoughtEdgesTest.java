@@ -95,8 +95,11 @@ public final class ThoughtEdgesTest {
         lieIs("w0:0,0,0;w1:1,2,3", 1, 0, 0, NO, "NO");
         lieIs("w0:9,9,9;w1:9,8,7", 1, 0, 0, NO, "NO");
         due.sentence(25, "LIES are told, WORTHS stay");
+        // what is told is told less and more, whatever it is worth: strip 0 is worth 0, strip 4 is worth 9
+        KnifeDesk x = Due.desk(5, 2, "w0:0,1,1,1,9;t0:1,0,0,8,0;t1:0,0,0,0,9");
+        lieIs(x, 0, 0, 0, 4, "41/16");
         // the share's worth is by worths: strip 4 has 9 of it, which the lie doesn't get
-        KnifeDesk x = cutter("t0:1,0,0,8,0");
+        x = cutter("t0:1,0,0,8,0");
         Due.worths(x, "w0:5,0,0,4,9;t0:1,0,0,8,0");
         lieIs(x, 0, 0, 0, 4, "29/4");
         due.sentence(25, "more than as it TELLS");
@@ -112,6 +115,13 @@ public final class ThoughtEdgesTest {
         x.tells(0, 0, 0);
         x.tells(0, 3, 2);
         lieIs(x, 0, 0, 0, 104, "4");
+        // 2 by both: told 0,4 it gets 1 of strip 1, and of the trimmings what else is of strip 1; told 2,2 nothing is trimmed
+        x = Due.desk(2, 3, "w0:1,3");
+        due.isText("as it tells", Due.would(x, 4, 0, 0), "16/9");
+        lieIs(x, 4, 0, 0, 1, "2");
+        x.tells(0, 0, 2);
+        x.tells(0, 1, 2);
+        due.isText("by the other lie", Due.would(x, 4, 0, 0), "2");
         due.sentence(25, "100 times the STRIP with less and the one with more");
         x = Due.desk(16, 2, "t0:0,0,0,0,0,0,0,0,0,0,0,0,0,0,8,1;t1:0,0,0,0,0,0,0,0,0,0,0,0,0,0,0,9");
         lieIs(x, 0, 0, 0, 1415, "205/14");
